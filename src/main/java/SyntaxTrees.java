@@ -76,7 +76,7 @@ public final class SyntaxTrees {
         if (!symbols.isConstant(sort)) {
             return NONE;
         }
-        return treesOfStretch(sort, limit, 0, row.length());
+        return chart.treesOf(sort, rules.below(limit), 0, row.length());
     }
 
     /** How many trees of a sort a stretch has: 0, 1, 2 for more, or NONE. */
@@ -84,15 +84,16 @@ public final class SyntaxTrees {
         if (!symbols.isConstant(sort) || from < 0 || from >= to || to > row.length()) {
             return NONE;
         }
-        return treesOfStretch(sort, limit, from, to);
+        return chart.treesOf(sort, rules.below(limit), from, to);
     }
 
     /** Makes the only tree of a sort for the whole row: how many nodes it has, or NONE. */
     public int make(int sort, int limit) {
-        if (trees(sort, limit) != 1) {
+        int usable = rules.below(limit);
+        if (!symbols.isConstant(sort) || chart.treesOf(sort, usable, 0, row.length()) != 1) {
             return NONE;
         }
-        return tree.build(row, sort, rules.below(limit));
+        return tree.build(row, sort, usable);
     }
 
     /** Rule (0), sort (1), start (2), end (3), first part (4) or number of parts (5) of a node. */
@@ -130,14 +131,6 @@ public final class SyntaxTrees {
         return tree.holds() ? 1 : 0;
     }
 
-    private int treesOfStretch(int sort, int limit, int from, int to) {
-        if (!symbols.isSort(sort) || from >= to) {
-            return 0;
-        }
-        chart.fill(rules.below(limit), from, to);
-        return chart.treesOf(sort, from, to);
-    }
-
     private static long bit(int place) {
         return 1L << place;
     }
@@ -150,6 +143,8 @@ public final class SyntaxTrees {
     private static final class Symbols {
         private final int[] types = new int[MOST_SYMBOLS];
         private final int[] ranks = new int[MOST_SYMBOLS];
+        /** The rank of a variable's type, NONE for a constant. */
+        private final int[] typeRanks = new int[MOST_SYMBOLS];
         private int size;
         private int sorts;
 
@@ -173,10 +168,6 @@ public final class SyntaxTrees {
             return has(symbol) && types[symbol] != NONE;
         }
 
-        boolean isSort(int symbol) {
-            return has(symbol) && ranks[symbol] != NONE;
-        }
-
         int typeOf(int symbol) {
             return has(symbol) ? types[symbol] : NONE;
         }
@@ -185,15 +176,19 @@ public final class SyntaxTrees {
             return has(symbol) ? ranks[symbol] : NONE;
         }
 
+        int typeRankOf(int symbol) {
+            return has(symbol) ? typeRanks[symbol] : NONE;
+        }
+
         int newConstant() {
-            return size < MOST_SYMBOLS ? append(NONE) : NONE;
+            return size < MOST_SYMBOLS ? append(NONE, NONE) : NONE;
         }
 
         int newVariable(int type) {
             if (size >= MOST_SYMBOLS || !becomesSort(type)) {
                 return NONE;
             }
-            return append(type);
+            return append(type, rankOf(type));
         }
 
         /** Whether the symbol is a sort now; nothing is done when it can't be one. */
@@ -208,9 +203,10 @@ public final class SyntaxTrees {
             return ranks[symbol] != NONE;
         }
 
-        private int append(int type) {
+        private int append(int type, int typeRank) {
             types[size] = type;
             ranks[size] = NONE;
+            typeRanks[size] = typeRank;
             size++;
             return size - 1;
         }
@@ -221,7 +217,7 @@ public final class SyntaxTrees {
         private final Symbols symbols;
         private final int[] sorts = new int[MOST_RULES];
         private final int[] all = new int[MOST_RULE_SYMBOLS];
-        /** Where a rule's symbols begin among all; those of the rule before it end there. */
+        /** Where the symbols of a rule, or of the next one, begin among all. */
         private final int[] firsts = new int[MOST_RULES + 1];
         /** Rules of one variable alone, by the rank of its type: the newest, and the one before. */
         private final int[] newestWraps = new int[MOST_SORTS];
@@ -284,7 +280,6 @@ public final class SyntaxTrees {
                 return NONE;
             }
             sorts[closed] = sort;
-            firsts[closed] = used;
             isOpen = true;
             return closed;
         }
@@ -305,9 +300,8 @@ public final class SyntaxTrees {
             if (!isOpen || openLength() == 0) {
                 return false;
             }
-            olderWraps[closed] = NONE;
             if (openLength() == 1) {
-                linkWrap(symbols.rankOf(symbols.typeOf(all[used - 1])));
+                linkWrap(symbols.typeRankOf(all[used - 1]));
             }
             closed++;
             firsts[closed] = used;
@@ -315,6 +309,7 @@ public final class SyntaxTrees {
             return true;
         }
 
+        /** The open rule is one symbol, whose type has a rank if it is a variable. */
         private void linkWrap(int rank) {
             if (rank != NONE) {
                 olderWraps[closed] = newestWraps[rank];
@@ -392,7 +387,7 @@ public final class SyntaxTrees {
         private final long[] severalReach = new long[MOST_RULE_SYMBOLS];
         /** By rank: how many trees the stretch at hand has. */
         private final int[] found = new int[MOST_SORTS];
-        /** A rank for each tree found, in which rules of one variable have yet to wrap it. */
+        /** The rank of each tree found, for the rules of one variable that wrap it. */
         private final int[] queue = new int[MOST_SORTS * SEVERAL];
         private int queued;
         private int usable;
@@ -403,8 +398,12 @@ public final class SyntaxTrees {
             this.row = row;
         }
 
-        /** Counts the trees of all stretches between two places by the first rules. */
-        void fill(int firstRules, int from, int to) {
+        /** Counts the trees of all stretches between two places, and tells those of the longest. */
+        int treesOf(int sort, int firstRules, int from, int to) {
+            int place = placeOf(symbols.rankOf(sort), to);
+            if (place == NONE || from >= to) {
+                return 0;
+            }
             usable = firstRules;
             forgetStretches();
             for (int start = to - 1; start >= from; start--) {
@@ -414,28 +413,24 @@ public final class SyntaxTrees {
                     keepFound(start, end);
                 }
             }
-        }
-
-        /** How many trees of a sort a stretch inside of what was filled has. */
-        int treesOf(int sort, int start, int end) {
-            int place = placeOf(symbols.rankOf(sort), end);
-            if (place == NONE || !hasBit(starts[place], start)) {
-                return 0;
+            if (hasBit(severalStarts[place], from)) {
+                return SEVERAL;
             }
-            return hasBit(severalStarts[place], start) ? SEVERAL : 1;
+            return hasBit(starts[place], from) ? 1 : 0;
         }
 
-        /** From where a rule's symbol may stand for a stretch up to an end. */
+        /** From where a rule's symbol may stand for a stretch up to an end, as counted last. */
         long startsOf(int symbol, int end) {
-            if (!symbols.isVariable(symbol)) {
+            int rank = symbols.typeRankOf(symbol);
+            if (rank == NONE) {
                 return end > 0 && row.symbolAt(end - 1) == symbol ? bit(end - 1) : 0;
             }
-            int place = placeOf(symbols.rankOf(symbols.typeOf(symbol)), end);
+            int place = placeOf(rank, end);
             return place == NONE ? 0 : starts[place];
         }
 
         private long severalStartsOf(int symbol, int end) {
-            int place = placeOf(symbols.rankOf(symbols.typeOf(symbol)), end);
+            int place = placeOf(symbols.typeRankOf(symbol), end);
             return place == NONE ? 0 : severalStarts[place];
         }
 
@@ -531,15 +526,15 @@ public final class SyntaxTrees {
 
         /** Where a rule's first symbol may end, from the start at hand. */
         private long endsOf(int symbol, int start) {
-            if (!symbols.isVariable(symbol)) {
+            int rank = symbols.typeRankOf(symbol);
+            if (rank == NONE) {
                 return row.symbolAt(start) == symbol ? bit(start + 1) : 0;
             }
-            int rank = symbols.rankOf(symbols.typeOf(symbol));
-            return rank == NONE ? 0 : ends[rank];
+            return ends[rank];
         }
 
         private long severalEndsOf(int symbol) {
-            int rank = symbols.rankOf(symbols.typeOf(symbol));
+            int rank = symbols.typeRankOf(symbol);
             return rank == NONE ? 0 : severalEnds[rank];
         }
 
@@ -556,8 +551,8 @@ public final class SyntaxTrees {
         }
 
         /**
-         * Each tree stands in one more tree for each rule of one variable of its sort. No more than
-         * two trees of a sort are wrapped, so that wraps without end come to one.
+         * Each tree stands in one more tree for each rule of one variable of its sort. Only two
+         * trees of a sort are queued, so that trees in trees without end come to an end here.
          */
         private void wrapTrees() {
             for (int tree = 0; tree < queued && tree < queue.length; tree++) {

@@ -17,6 +17,7 @@ public final class PromisesTest {
         promise7();
         promise8();
         promise8WithoutEnd();
+        promise8Several();
         promise9();
         promise10();
         promise11();
@@ -259,6 +260,33 @@ public final class PromisesTest {
         row(x, 4);
         due("a sort of itself", x.trees(0, 5), 2);
         due("a sort not yet of itself", x.trees(0, 4), 1);
+    }
+
+    /** Several trees of a part make several of the whole, wherever other stretches have several. */
+    private static void promise8Several() {
+        SyntaxTrees x = withConstants(6);
+        x.symbol(1);
+        x.symbol(2);
+        rule(x, 0, 1, 3);
+        rule(x, 1, 1, 3);
+        rule(x, 2, 1, 4, 3);
+        rule(x, 3, 1, 4, 3);
+        rule(x, 4, 0, 5, 4, 6);
+        row(x, 5, 4, 3);
+        due("several at the end", x.trees(0, 9), 2);
+        due("one", x.trees(0, 1), 0);
+        rule(x, 5, 1, 3, 4);
+        rule(x, 6, 1, 3, 4);
+        rule(x, 7, 2, 4, 3);
+        rule(x, 8, 0, 6, 7);
+        row(x, 3, 4, 3);
+        due("several at the beginning", x.trees(0, 9), 2);
+        row(x, 5, 4, 3);
+        due("several at the end", x.trees(0, 9), 2);
+        rule(x, 9, 0, 6, 4, 4, 7);
+        row(x, 3, 4, 4, 4, 3);
+        due("several before the last", x.trees(0, 10), 2);
+        due("without its rule", x.trees(0, 9), 0);
     }
 
     private static void promise9() {

@@ -57,7 +57,7 @@ public final class RandomRunsTest {
             int type = random(constants);
             same("symbol(" + type + ")", x.symbol(type), model.symbol(type));
         }
-        int rules = random(8);
+        int rules = random(random(3) == 0 ? 16 : 8);
         for (int k = 0; k < rules; k++) {
             tellRule();
         }
