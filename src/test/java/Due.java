@@ -2,15 +2,21 @@
 final class Due {
     private static int wrong = 0;
     private static int asked = 0;
+    private static String heading = "";
 
     private Due() {
+    }
+
+    /** The words that the answers asked for from now on stand under. */
+    static void under(String words) {
+        heading = words.isEmpty() ? "" : words + ": ";
     }
 
     static void due(String call, long got, long want) {
         asked++;
         if (got != want) {
             wrong++;
-            System.out.println(call + " answered " + got + ", due is " + want);
+            System.out.println(heading + call + " answered " + got + ", due is " + want);
         }
     }
 
