@@ -139,6 +139,10 @@ public final class SyntaxTrees {
         return (set & bit(place)) != 0;
     }
 
+    private static boolean isRank(int rank) {
+        return rank >= 0 && rank < MOST_SORTS;
+    }
+
     /** Constants and variables; the constants that are sorts are ranked as they became sorts. */
     private static final class Symbols {
         private final int[] types = new int[MOST_SYMBOLS];
@@ -268,7 +272,7 @@ public final class SyntaxTrees {
         }
 
         int newestWrap(int rank) {
-            return rank >= 0 && rank < MOST_SORTS ? newestWraps[rank] : NONE;
+            return isRank(rank) ? newestWraps[rank] : NONE;
         }
 
         int olderWrap(int rule) {
@@ -311,7 +315,7 @@ public final class SyntaxTrees {
 
         /** The open rule is one symbol, whose type has a rank if it is a variable. */
         private void linkWrap(int rank) {
-            if (rank != NONE) {
+            if (isRank(rank)) {
                 olderWraps[closed] = newestWraps[rank];
                 newestWraps[rank] = closed;
             }
@@ -435,7 +439,7 @@ public final class SyntaxTrees {
         }
 
         private static int placeOf(int rank, int end) {
-            if (rank < 0 || rank >= MOST_SORTS || end < 0 || end >= ENDS) {
+            if (!isRank(rank) || end < 0 || end >= ENDS) {
                 return NONE;
             }
             return rank * ENDS + end;
@@ -527,23 +531,24 @@ public final class SyntaxTrees {
         /** Where a rule's first symbol may end, from the start at hand. */
         private long endsOf(int symbol, int start) {
             int rank = symbols.typeRankOf(symbol);
-            if (rank == NONE) {
-                return row.symbolAt(start) == symbol ? bit(start + 1) : 0;
+            if (isRank(rank)) {
+                return ends[rank];
             }
-            return ends[rank];
+            return row.symbolAt(start) == symbol ? bit(start + 1) : 0;
         }
 
         private long severalEndsOf(int symbol) {
             int rank = symbols.typeRankOf(symbol);
-            return rank == NONE ? 0 : severalEnds[rank];
+            return isRank(rank) ? severalEnds[rank] : 0;
         }
 
         private void addTrees(int sort, int more) {
             int rank = symbols.rankOf(sort);
-            if (rank == NONE) {
+            if (!isRank(rank)) {
                 return;
             }
-            for (int tree = 0; tree < more && found[rank] < SEVERAL; tree++) {
+            int room = Math.min(SEVERAL - found[rank], queue.length - queued);
+            for (int tree = 0; tree < more && tree < room; tree++) {
                 found[rank]++;
                 queue[queued] = rank;
                 queued++;

@@ -10,7 +10,13 @@ public final class CheckTest {
     private CheckTest() {
     }
 
-    public static void main(String[] args) throws ReflectiveOperationException {
+    public static void main(String[] args) {
+        Words.say(14, "Whether each node's stretch is that of its rule with its parts", CheckTest::made);
+        Words.say(14, "it would tell 0", CheckTest::spoilAll);
+        Due.end();
+    }
+
+    private static void spoilAll() {
         SyntaxTrees x = made();
         Object tree = inside(x, "tree");
         int nodes = x.count(5);
@@ -29,7 +35,6 @@ public final class CheckTest {
         for (int place = 0; place < x.count(4); place++) {
             spoil(x, inside(tree, "madeFor"), "row", place);
         }
-        Due.end();
     }
 
     /** 0 expr, 1 term, 2 plus, 3 times, 4 one, 5 e, 6 t, 7 u: the row u * 1 + t * u. */
@@ -52,17 +57,21 @@ public final class CheckTest {
             x.add(symbol);
         }
         Due.due("make", x.make(0, 9), 8);
+        Due.due("check", x.check(), 1);
         return x;
     }
 
-    private static Object inside(Object object, String name) throws ReflectiveOperationException {
-        Field field = object.getClass().getDeclaredField(name);
-        field.setAccessible(true);
-        return field.get(object);
+    private static Object inside(Object object, String name) {
+        try {
+            Field field = object.getClass().getDeclaredField(name);
+            field.setAccessible(true);
+            return field.get(object);
+        } catch (ReflectiveOperationException failure) {
+            throw new IllegalStateException(failure);
+        }
     }
 
-    private static void spoil(SyntaxTrees x, Object holder, String name, int k)
-            throws ReflectiveOperationException {
+    private static void spoil(SyntaxTrees x, Object holder, String name, int k) {
         int[] numbers = (int[]) inside(holder, name);
         int right = numbers[k];
         for (int wrong = -3; wrong <= 10; wrong++) {

@@ -197,7 +197,7 @@ public final class LimitsTest {
         due("check", x.check(), 1);
         rule(x, 0, 1, 3);
         due("to both sides", x.trees(0, 3), 2);
-        due("one way for two places", x.part(0, 3, 5, 7), 2);
+        due("two ways for two places", x.part(0, 3, 5, 7), 2);
         due("one place", x.part(0, 3, 58, 59), 1);
         rule(x, 0, 2);
         rule(x, 0, 3, 4);

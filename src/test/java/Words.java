@@ -8,6 +8,8 @@ final class Words {
     /** Numbers for the sections that are no promises. */
     static final int TERMS = 0;
     static final int WHAT_IT_IS = -1;
+    static final int NOT_PROMISED = -2;
+    static final int FACE = -3;
 
     private static final Path DOCUMENT = Path.of("../shared/DOC.md");
     private static String text = null;
@@ -17,7 +19,7 @@ final class Words {
 
     static void say(int promise, String words, Runnable test) {
         String heading = headingOf(promise);
-        Due.due(heading.trim() + " says '" + words + "'", section(heading).contains(words) ? 1 : 0, 1);
+        Due.due(heading.trim() + " says '" + words + "'", section(promise).contains(words) ? 1 : 0, 1);
         Due.under(heading.substring(3).trim() + " '" + words + "'");
         test.run();
         Due.under("");
@@ -29,13 +31,18 @@ final class Words {
                 return "## Terms\n";
             case WHAT_IT_IS:
                 return "## What it is\n";
+            case NOT_PROMISED:
+                return "## Not promised\n";
+            case FACE:
+                return "## The public face\n";
             default:
                 return "## Promise " + promise + ": ";
         }
     }
 
-    private static String section(String heading) {
-        int begin = document().indexOf(heading);
+    /** The text of a promise, or of one of the other sections; empty if there is none. */
+    static String section(int promise) {
+        int begin = document().indexOf(headingOf(promise));
         if (begin < 0) {
             return "";
         }
